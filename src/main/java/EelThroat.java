@@ -504,42 +504,31 @@ public final class EelThroat {
             return true;
         }
 
-        private int wordLength() {
-            int behind = at;
-            while (behind < size && bytes[behind] >= 'a' && bytes[behind] <= 'z') {
-                behind++;
-            }
-            return behind - at;
-        }
-
         /** Which of the names, told with one blank between, the WORD here is; NONE: it is none of them. */
         int find(String names) {
-            int length = wordLength();
             int which = 0;
-            int first = 0;
+            int behind = at;
+            boolean alike = true;
             for (int i = 0; i <= names.length(); i++) {
-                if (i == names.length() || names.charAt(i) == ' ') {
-                    if (i - first == length && isHere(names, first, length)) {
-                        return which;
-                    }
+                int next = behind < size ? bytes[behind] : BEHIND;
+                if (i < names.length() && names.charAt(i) != ' ') {
+                    alike = alike && next == names.charAt(i);
+                    behind++;
+                } else if (alike && (next < 'a' || next > 'z')) {
+                    return which;
+                } else {
                     which++;
-                    first = i + 1;
+                    behind = at;
+                    alike = true;
                 }
             }
             return NONE;
         }
 
-        private boolean isHere(String names, int first, int length) {
-            for (int i = 0; i < length; i++) {
-                if (names.charAt(first + i) != bytes[at + i]) {
-                    return false;
-                }
-            }
-            return true;
-        }
-
         void passWord() {
-            at += wordLength();
+            while (at < size && bytes[at] >= 'a' && bytes[at] <= 'z') {
+                at++;
+            }
         }
 
         boolean tookWord(String word) {
@@ -559,22 +548,19 @@ public final class EelThroat {
             skip();
             int first = at;
             int value = 0;
-            while (at < size && onDigit()) {
+            while (at < size && bytes[at] >= '0' && bytes[at] <= '9') {
                 // More digits are a FAULT anyway, and must not run over.
                 if (at - first < DIGITS_MOST) {
                     value = 10 * value + bytes[at] - '0';
                 }
                 at++;
             }
-            if (at == first) {
-                blame(first, 0);
-                return NONE;
+            int digits = at - first;
+            if (digits > 0 && digits <= DIGITS_MOST && value >= least && value <= most) {
+                return value;
             }
-            if (at - first > DIGITS_MOST || value < least || value > most) {
-                blame(first, 1);
-                return NONE;
-            }
-            return value;
+            blame(first, digits == 0 ? 0 : 1);
+            return NONE;
         }
     }
 
@@ -724,15 +710,21 @@ public final class EelThroat {
         /** In the order of Stream.wordValue. */
         private static final String WORDS =
             "memory pool from size smell bait traps with light next whose night";
+        private static final int LIGHT_WORD = 8;
+        private static final int NEXT_WORD = 9;
+        private static final int NIGHT_WORD = 11;
 
         /** Each step comes from a byte of the text at least, so there are never more. */
         final int[] code = new int[TAPE_MOST];
         final int[] given = new int[TAPE_MOST];
         int length;
+        /** It looks at the NIGHT or a LIGHT, so that a NIGHT in which nothing goes tells nothing of the next. */
+        boolean timed;
         private int units;
 
         boolean read(Tape tape) {
             length = 0;
+            timed = false;
             units = 0;
             tape.rewind();
             for (int clauses = 0; clauses <= CLAUSES_MOST; clauses++) {
@@ -744,9 +736,14 @@ public final class EelThroat {
                     return tape.blame(tape.at, 4);
                 }
                 tape.passWord();
-                if (!readClause(tape)) {
+                if (!readSum(tape)) {
                     return false;
                 }
+                boolean tested = tape.tookWord("if");
+                if (tested && !readTest(tape, 0)) {
+                    return false;
+                }
+                emit(tested ? ANSWER_IF : ANSWER, 0);
                 if (tape.over()) {
                     return true;
                 }
@@ -763,21 +760,6 @@ public final class EelThroat {
                 given[length] = value;
                 length++;
             }
-        }
-
-        private boolean readClause(Tape tape) {
-            if (!readSum(tape)) {
-                return false;
-            }
-            if (!tape.tookWord("if")) {
-                emit(ANSWER, 0);
-                return true;
-            }
-            if (!readTest(tape, 0)) {
-                return false;
-            }
-            emit(ANSWER_IF, 0);
-            return true;
         }
 
         private boolean readTest(Tape tape, int deep) {
@@ -893,6 +875,7 @@ public final class EelThroat {
                 return tape.blame(place, 0);
             }
             tape.passWord();
+            timed = timed || word == LIGHT_WORD || word == NEXT_WORD || word == NIGHT_WORD;
             emit(WORD, word);
             return hasUnit(tape, place);
         }
@@ -1092,12 +1075,23 @@ public final class EelThroat {
         private int nextLight;
         private int self;
         private int pool;
+        private boolean moved;
 
         /** NIGHTS by the moons. */
         void pass(River ofRiver, Water ofWater, Rule by, int nights) {
+            int behind = ofWater.night + nights;
             for (int i = 0; i < nights; i++) {
                 step(ofRiver, ofWater, by, ofRiver.lightOf(ofWater.night));
+                if (isStill()) {
+                    break;
+                }
             }
+            ofWater.night = behind;
+        }
+
+        /** In the last NIGHT nothing went, and nothing will in the next ones. */
+        boolean isStill() {
+            return !moved && (rule == null || !rule.timed);
         }
 
         /** One NIGHT of a LIGHT; the MEMORIES that go into TRAPS, as bits. */
@@ -1107,27 +1101,27 @@ public final class EelThroat {
             rule = by;
             light = itsLight;
             nextLight = river.lightOf(water.night + 1);
-            int caught = 0;
-            // Where nobody is FREE, nothing goes anywhere: the NIGHT alone goes on.
-            if (countPools() > 0) {
-                // All goals ahead of the first move, for they go all at once.
-                for (int m = 0; m < river.memories; m++) {
-                    goal[m] = isFreePlace(water.place[m]) ? goalOf(m) : NONE;
-                }
-                for (int m = 0; m < river.memories; m++) {
-                    if (goal[m] != NONE) {
-                        water.place[m] = goesToSea(m) ? NONE : goal[m];
-                    }
-                }
-                caught = fillTraps();
+            moved = false;
+            if (rule != null) {
+                countPools();
             }
+            // All goals ahead of the first move, for they go all at once.
+            for (int m = 0; m < river.memories; m++) {
+                goal[m] = isFreePlace(water.place[m]) ? goalOf(m) : water.place[m];
+            }
+            for (int m = 0; m < river.memories; m++) {
+                int to = goesToSea(m) ? NONE : goal[m];
+                moved = moved || to != water.place[m];
+                water.place[m] = to;
+            }
+            int caught = fillTraps();
+            moved = moved || caught != 0;
             water.night++;
             return caught;
         }
 
-        /** Of each POOL how many FREE MEMORIES and TRAPS are in it; how many are FREE at all. */
-        private int countPools() {
-            int free = 0;
+        /** Of each POOL how many FREE MEMORIES and TRAPS are in it. */
+        private void countPools() {
             for (int p = 0; p < POOLS_MOST; p++) {
                 crowd[p] = 0;
                 trapsIn[p] = 0;
@@ -1135,13 +1129,11 @@ public final class EelThroat {
             for (int m = 0; m < river.memories; m++) {
                 if (isFreePlace(water.place[m])) {
                     crowd[water.place[m]]++;
-                    free++;
                 }
             }
             for (int t = 0; t < river.traps; t++) {
                 trapsIn[water.sunk[t]]++;
             }
-            return free;
         }
 
         private int goalOf(int memory) {
@@ -1281,6 +1273,9 @@ public final class EelThroat {
             trial.copy(now.water);
             for (int i = 0; i < NIGHTS_WAITED && isFreePlace(trial.place[memory]); i++) {
                 stream.pass(now.river, trial, by, 1);
+                if (stream.isStill()) {
+                    break;
+                }
             }
             if (trial.place[memory] < IN_TRAP) {
                 return NOT_SO;
@@ -1296,6 +1291,9 @@ public final class EelThroat {
                 stream.pass(now.river, trial, by, 1);
                 if (trial.fullTraps(now.river.traps) == now.river.traps) {
                     return night;
+                }
+                if (stream.isStill()) {
+                    break;
                 }
             }
             return NOT_SO;

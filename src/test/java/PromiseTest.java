@@ -734,6 +734,12 @@ public final class PromiseTest {
         x = Due.with("river 3 9;person 1;memory 1 1 0 0;trap 0 9 1 0;trap 2 9 1 0", "go bait if pool = 2;go 2 if bait = 1");
         is("BAIT 0 of the first one", x.rests(0, 1, 1, 0), 8);
         is("its first", 10 * x.rests(0, 1, 1, 1) + x.rests(0, 1, 1, 2), 0);
+        // What both have by 0 0: 0 5; 0 1: 1 2; 1 0: 2 1; 1 1: 0 2; another of one of both: never more of its own.
+        x = Due.with("river 2 9;person 1;memory 0 5 0 0;memory 1 2 1 0;memory 0 1 0 0;memory 1 1 0 0;trap 1 9 7 0;trap 0 8 7 0",
+            "go 1 if pool < from and bait = 1;go 1 if pool > from and bait = 0");
+        is("none rests", x.rests(0, 1, 1, 0), 0);
+        is("none rests", x.rests(0, 1, 1, 1), -2);
+        is("none rests", x.rests(0, 1, 1, 2), -2);
     }
 
     private static void p29() {

@@ -111,6 +111,8 @@ public final class FaultTest {
         badRule("", 0, 0);
         badRule("go", 2, 0);
         badRule("gos 1", 0, 0);
+        badRule("goz 1", 0, 0);
+        badRule("goa 1", 0, 0);
         badRule("Go 1", 0, 0);
         badRule("go x", 3, 0);
         badRule("go pools", 3, 0);

@@ -482,6 +482,7 @@ public final class PromiseTest {
         }
         is("NIGHT 3", x.count(8), 3);
         is("none", x.undo(), NONE);
+        is("nothing happens", x.count(8), 3);
     }
 
     private static void p17() {
@@ -585,6 +586,11 @@ public final class PromiseTest {
         is("how many", x.bestSink(0, 1, 0), 1);
         is("the least POOL", x.bestSink(0, 1, 1), 1);
         is("the BAIT", x.bestSink(0, 1, 2), 3);
+        // By BAIT 0 the TRAP has MEMORY 0, which the other one would have; by BAIT 4 both have one.
+        x = Due.with("river 2 9;person 1;memory 1 1 0 0;memory 1 1 4 0;trap 1 9 7 0;trap 1 9 0 0");
+        is("both", x.bestSink(0, 1, 0), 2);
+        is("where it is", x.bestSink(0, 1, 1), 1);
+        is("the greater BAIT", x.bestSink(0, 1, 2), 4);
         // A BAIT that nobody smells can be best: the TRAP, too small itself, calls it into the other one.
         x = Due.with("river 3 9;person 1;memory 1 2 3 0;trap 0 1 3 0;trap 2 9 3 0", "go 1 if traps = 2");
         is("by two TRAPS in one POOL", x.bestSink(0, 1, 0), 1);
@@ -618,6 +624,7 @@ public final class PromiseTest {
         is("1 NIGHT", x.throats(0, 1), -2);
         is("2 NIGHTS", x.throats(0, 2), 3);
         is("another BAIT", x.throats(1, 40), -2);
+        is("the widest", Due.with("river 3 9;person 1;memory 0 9 0 0;trap 1 1 0 0").throats(0, 1), 9);
         is("n 0", x.throats(0, 0), NONE);
         is("n 41", x.throats(0, 41), NONE);
         is("trap 2", x.throats(2, 1), NONE);
@@ -967,7 +974,7 @@ public final class PromiseTest {
         is("back(-1)", x.back(-1), NONE);
         x.image(1);
         x.seed(3);
-        x.note(1, 1, 1);
+        x.note(1, 1, 2);
         Due.nights(x, 2);
         x.lift(0);
         x.image(2);
@@ -985,6 +992,14 @@ public final class PromiseTest {
         x.sink(0, 0, 0);
         x.night();
         is("back(2) again", x.back(2), 2);
+        is("none UNDONE", x.count(12), 0);
+        is("none UNDONE", x.undo(), NONE);
+        is("the NOTE is so", x.ruled(0), 2);
+        x.note(NONE, 0, 0);
+        x.note(2, 0, 3);
+        is("another one", x.ruled(0), 0);
+        is("back(2) again", x.back(2), 2);
+        is("the NOTE is as it was", x.ruled(0), 2);
         is("the TRAP", x.trap(0, 0), 2);
         is("back(1)", x.back(1), 0);
         is("x", x.count(13), 0);

@@ -65,6 +65,12 @@ public final class NightEdgeTest {
             EDGE.is("the other one came, for it was empty", x.memory(1, 3), 1);
             x.night();
             EDGE.is("it stays, for it is not", x.memory(1, 3), 1);
+            // Nobody goes in NIGHT 0, but one into a TRAP; in NIGHT 1 another one goes by that.
+            x = Due.with("river 2 9;person 1;memory 1 1 0 0;memory 0 1 0 0;trap 1 1 0 0",
+                "go 2 if memory = 1 and pool = 1 and bait = 0;go 1 if pool = from");
+            EDGE.is("behind one NIGHT", x.ahead(1, 1), 0);
+            EDGE.is("behind two NIGHTS", x.ahead(1, 2), 1);
+            EDGE.is("behind a hundred", x.ahead(1, 100), 1);
         });
     }
 

@@ -55,6 +55,14 @@ public final class RiverEdgeTest {
         return x;
     }
 
+    /** On the TAPE are a text's first bytes; those behind them came, and are gone. */
+    private static EelThroat cut(String text, int n) {
+        EelThroat x = new EelThroat();
+        Due.tell(x, text);
+        x.end(n);
+        return x;
+    }
+
     private static void tape() {
         EDGE.of("NONE, and none comes, if it would have more than 400", () -> {
             EDGE.is("the first twenty", feedSigns(new EelThroat(), 'a'), 20);
@@ -89,6 +97,21 @@ public final class RiverEdgeTest {
             EDGE.still("end(1) of none", EelThroat::new, x -> x.end(1), NONE);
             EDGE.is("end(400)", fed(20, 400).end(400), 400);
             EDGE.still("end(401)", () -> fed(20, 400), x -> x.end(401), NONE);
+        });
+        EDGE.of("The TAPE has its first n bytes alone", () -> {
+            String river = "river 12 9;moon 3;person 4;memory 10 2 1 0;trap 11 3 1 0";
+            String rule = "go 12 + pool if not [light >= 3 or next < 9] and size = 1;go 7";
+            for (int n = 0; n <= river.length(); n++) {
+                EDGE.is(n + " bytes of '" + river + "'", cut(river, n).river(), Due.river(new EelThroat(), river.substring(0, n)));
+            }
+            for (int n = 0; n <= rule.length(); n++) {
+                EDGE.is(n + " bytes of '" + rule + "'", cut(rule, n).rule(), Due.rule(new EelThroat(), rule.substring(0, n)));
+            }
+            EDGE.is("a digit behind it", cut("river 22 9", 7).river(), -2 - (1 + 8 * 7));
+            EDGE.is("a blank behind it", cut("river 2 9", 5).river(), -2 - (1 + 8 * 5));
+            EDGE.is("a letter behind it", cut("gone 1", 2).rule(), -2 - (1 + 8 * 2));
+            EDGE.is("a sign behind it", cut("go 1 if 1<=1", 10).rule(), -2 - (1 + 8 * 10));
+            EDGE.is("the rest is as if it had never come", cut("go 1;", 4).rule(), 0);
         });
         EDGE.of("A RIVER is a text of at most 400 bytes", () -> {
             good("river 2" + " ".repeat(392) + "1", 0);
@@ -242,6 +265,8 @@ public final class RiverEdgeTest {
             bad("rivers 2 1", 0, 0);
             bad("rive 2 1", 0, 0);
             bad("riverx2 1", 0, 0);
+            bad("rivera 2 1", 0, 0);
+            bad("riverz 2 1", 0, 0);
             bad("river 2 1;river1", 10, 4);
             bad("river 2 1;moons 1", 10, 0);
             bad("river 2 1;moo 1", 10, 0);
@@ -327,6 +352,20 @@ public final class RiverEdgeTest {
                 EDGE.is("'" + text + "' is refused", Math.max(answer, -3), -3);
                 EDGE.same("'" + text + "'", x, Edge.richWithoutTape());
             }
+        });
+        EDGE.of("how many MEMORIES; -2 - its FAULT, and all stays", () -> {
+            EelThroat x = new EelThroat();
+            Due.river(x, "river 12 9" + ";moon 9".repeat(12) + ";person 9".repeat(4) + ";memory 11 9 7 3".repeat(6) + ";trap 99 9 7 3");
+            Due.river(x, "river 12 9;person 9;memory 99 9 7 3");
+            EDGE.is("no RIVER behind a FAULT", x.night(), NONE);
+            EDGE.same("no RIVER behind a FAULT", x, new EelThroat());
+            x = new EelThroat();
+            Due.river(x, "river 12 9" + ";moon 9".repeat(12) + ";person 9".repeat(4) + ";memory 11 9 7 3".repeat(6) + ";trap 99 9 7 3");
+            Due.river(x, "river 12 9;person 9;memory 99 9 7 3");
+            EDGE.is("one behind it", Due.river(x, "river 3 2;person 5"), 0);
+            EDGE.is("nothing of it at SEA", x.count(10), 0);
+            EDGE.is("nothing of it at SEA", x.atSea(100), 0);
+            EDGE.same("it knows nothing of a FAULT", x, Due.with("river 3 2;person 5"));
         });
         EDGE.of("The TAPE, which is empty then, is the RIVER in place of the one there was", () -> {
             EelThroat x = Edge.rich();

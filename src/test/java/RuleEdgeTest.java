@@ -177,6 +177,13 @@ public final class RuleEdgeTest {
             bad("go 1 if 1=1 ore 1=1", 12, 0);
             bad("go 1 if 1=1 xor 1=1", 12, 0);
             bad("gone 1", 0, 0);
+            bad("goa 1", 0, 0);
+            bad("goz 1", 0, 0);
+            bad("go poola", 3, 0);
+            bad("go poolz", 3, 0);
+            bad("go 1 ifz 1=1", 5, 0);
+            bad("go 1 if notz 1=1", 8, 0);
+            bad("go 1 if 1=1 orz 1=1", 12, 0);
             good("go1if1=1and1=1or1=1;go pool");
             good("go 1if[pool=1]and[pool=1]or not[pool=1]");
         });
@@ -332,6 +339,14 @@ public final class RuleEdgeTest {
                 goes(river, "go pool if night = " + night + " and next = " + (next + 1), night + 1, 0);
             }
             goes("river 2 9;moon 9;person 1;memory 0 1 0 0", "go pool if light = 9 and next = 9", 1, 1);
+            // All POOLS alike: up, in that NIGHT alone.
+            String three = "river 2 9;moon 0;moon 0;moon 7;person 1;memory 1 1 0 0";
+            goes(three, "go 1 if light = 7", 2, 1);
+            goes(three, "go 1 if light = 7", 3, 0);
+            goes(three, "go 1 if next = 7", 1, 1);
+            goes(three, "go 1 if next = 7", 2, 0);
+            goes(three, "go 1 if night = 50", 50, 1);
+            goes(three, "go 1 if night = 50", 51, 0);
             goes("river 2 9;moon 3;moon 8;person 1;memory 0 1 0 0", "go pool if light = 8 and next = 3", 1, 0);
             goes("river 2 9;moon 3;moon 8;person 1;memory 0 1 0 0", "go pool if light = 8 and next = 3", 2, 1);
         });
@@ -445,6 +460,7 @@ public final class RuleEdgeTest {
             x.rule();
             EDGE.is("no TAPE", x.count(14), 0);
             EDGE.is("an empty one", x.rule(), -3);
+            Due.rule(x, "go 9 if 1 = 2;go 9;go 9 if fish");
             EDGE.is("the next number", Due.rule(x, "go 7"), 2);
             EDGE.is("no TAPE", x.count(14), 0);
             EDGE.is("three RULES", x.count(6), 3);

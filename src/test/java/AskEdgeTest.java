@@ -242,6 +242,9 @@ public final class AskEdgeTest {
             best(x, 3, 1, 4, 0, 0);
             // The TRAP sunk there takes what the other one would have, and no more are caught by that.
             best(Due.with("river 2 9;person 1;memory 0 1 0 0;trap 1 1 0 0;trap 0 1 0 0", stay), 0, 1, 1, NONE, NONE);
+            // A BAIT that nobody smells may be best: two TRAPS in one POOL call it into the other one.
+            best(Due.with("river 3 9;person 1;memory 1 2 3 0;trap 0 1 3 0;trap 2 9 3 0", "go 1 if traps = 2"), 0, 1, 1, 2, 0);
+            best(Due.with("river 3 9;person 1;memory 1 2 0 0;trap 0 1 3 0;trap 2 9 0 0", "go 1 if traps = 2 and bait = 1"), 0, 1, 1, 2, 1);
             // Only both together, POOL and BAIT, are another way: neither alone is enough.
             best(Due.with("river 3 9;person 1;memory 2 1 3 0;trap 1 1 2 0", stay), 0, 1, 1, 2, 3);
         });

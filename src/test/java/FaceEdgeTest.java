@@ -250,6 +250,21 @@ public final class FaceEdgeTest {
             y.image(3);
             y.back(3);
             EDGE.same("as it was", x, y);
+            // Of a NOTE all three numbers are held: by none it is so for MEMORY 0 at the begin of NIGHT 1, in POOL 1, alone.
+            int[][] others = {{0, 0, 1}, {1, 1, 1}, {1, 0, 2}};
+            for (int[] other : others) {
+                x = Due.with("river 3 9;person 1;memory 0 1 0 0;memory 1 1 0 0");
+                x.note(1, 0, 1);
+                x.image(0);
+                x.note(NONE, 0, 0);
+                x.note(other[0], other[1], other[2]);
+                x.image(1);
+                EDGE.is("the other one", x.ruled(0), 0);
+                x.back(0);
+                EDGE.is("as it was told", x.ruled(0), 1);
+                x.back(1);
+                EDGE.is("the other one", x.ruled(0), 0);
+            }
             // No RIVER is held, too: behind it there is none.
             x = new EelThroat();
             x.image(0);

@@ -363,6 +363,8 @@ public final class NightEdgeTest {
                 EDGE.is("who HAS it", x.memory(3, 3), 30 + who);
                 EDGE.is("who HAS it", x.person(who), 8);
                 EDGE.is("an ACT", x.count(12), 5);
+                EDGE.is("to the one who HAS it", x.give(3, who), NONE);
+                EDGE.is("no ACT", x.count(12), 5);
                 EDGE.is("back again", x.give(3, 0), who);
             }
         });

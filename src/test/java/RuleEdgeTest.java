@@ -263,7 +263,9 @@ public final class RuleEdgeTest {
             }
         });
         EDGE.of("with (how many other FREE MEMORIES are in that POOL)", () -> {
-            goes(SIX, "go 1 if with = 5 and pool = 0;go 2 if with = 0", 1, 1);
+            goes(SIX, "go 2 if with = 5 and pool = 0;go 1 if with = 0", 1, 0);
+            goes(SIX, "go 2 if with = 4 and pool = 0;go 1 if with = 0", 1, 1);
+            goes("river 2 9;person 1;memory 1 1 0 0", "go 2 if with = 0 and pool = 1;go 1", 1, 1);
             goes(SIX, "go 1 if with = 0 and pool = 0", 1, 0);
             goes("river 2 9;person 1" + ";memory 1 1 0 0".repeat(6), "go 1 if with = 0 and pool = 0", 1, 0);
             goes("river 2 9;person 1;memory 0 1 0 0" + ";memory 1 1 0 0".repeat(5), "go pool if with = 5", 1, 1);
@@ -313,6 +315,7 @@ public final class RuleEdgeTest {
         EDGE.of("traps (how many TRAPS are in that POOL, empty or not)", () -> {
             goes(four, "go 1 if traps = 4", 1, 20);
             goes(four, "go 1 if traps = 0 and pool = 0", 1, 0);
+            goes("river 5 9;person 1;memory 0 1 7 0;trap 1 1 0 0;trap 2 1 0 0;trap 3 1 0 0;trap 4 1 0 0", "go 1 if pool > from and traps = 1", 4, 4);
             EelThroat x = Due.with("river 2 9;person 9;memory 0 1 7 0;memory 1 1 5 0;trap 1 1 5 0;trap 1 1 4 0;trap 0 1 4 0",
                 "go 2 if traps = 2 and pool = 1 and night = 1;go 1 if pool = from");
             x.night();
@@ -404,6 +407,10 @@ public final class RuleEdgeTest {
             bad("go 1" + "+1".repeat(59) + "+  12345", 125, 3);
             bad("go 1" + "+1".repeat(59) + "*pool", 123, 3);
             bad("go 1" + "+1".repeat(59) + " if pool=1", 126, 3);
+            bad("go 1" + "+1".repeat(59) + " if [pool", 127, 3);
+            bad("go 1" + "+1".repeat(59) + " if not pool", 130, 3);
+            bad("go 1" + "+1".repeat(58) + " if [1=", 126, 3);
+            bad("go 1" + "+1".repeat(57) + " if [1=1", 125, 3);
             bad("go 1" + "+1".repeat(58) + " if 1  <=  1", 127, 3);
             bad("go 1" + "+1".repeat(58) + " if 1>", 125, 3);
             bad("go 1" + "+1".repeat(57) + " if 1=pool", 124, 3);
@@ -466,6 +473,17 @@ public final class RuleEdgeTest {
             EDGE.is("three RULES", x.count(6), 3);
             EDGE.is("not IN FORCE by that", x.count(7), 1);
             EDGE.is("the first of a new one", Due.rule(new EelThroat(), "go 7"), 0);
+            // What a FAULT was read up to is not part of the RULE behind it, and does not count for it.
+            x = Due.with(SIX);
+            Due.rule(x, "go 1 if pool = 1;go 9;go 1" + "+1".repeat(50) + " if fish");
+            Due.rule(x, "go 1" + "+1".repeat(60));
+            EDGE.is("sixty", Due.rule(x, "go 1*pool-1" + "+1".repeat(53) + "-53 if 1=1"), 0);
+            x.force(0);
+            EDGE.is("by what stands in it", x.ahead(0, 1), 0);
+            Due.rule(x, "go 1;go 9 if fish");
+            EDGE.is("another one", Due.rule(x, "go 1 if pool = 1"), 1);
+            x.force(1);
+            EDGE.is("by what stands in it", x.ahead(0, 1), 1);
         });
     }
 

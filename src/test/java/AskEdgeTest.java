@@ -27,14 +27,6 @@ public final class AskEdgeTest {
         EDGE.close();
     }
 
-    private static void refused(String call, ToIntFunction<EelThroat> asked, int answer) {
-        EDGE.still(call, Edge::rich, asked, answer);
-    }
-
-    private static void without(String call, ToIntFunction<EelThroat> asked, int answer) {
-        EDGE.still(call + " without a RIVER", EelThroat::new, asked, answer);
-    }
-
     private static void stays(String call, ToIntFunction<EelThroat> asked) {
         EelThroat x = Edge.rich();
         asked.applyAsInt(x);
@@ -91,12 +83,12 @@ public final class AskEdgeTest {
         });
         EDGE.of("AHEAD: where, as told of it; -2 without these", () -> {
             for (int n : Edge.outside(0, 100)) {
-                refused("n " + n, x -> x.ahead(0, n), -2);
+                EDGE.refused("n " + n, x -> x.ahead(0, n), -2);
             }
             for (int m : Edge.outside(0, 4)) {
-                refused("MEMORY " + m, x -> x.ahead(m, 1), -2);
+                EDGE.refused("MEMORY " + m, x -> x.ahead(m, 1), -2);
             }
-            without("ahead", x -> x.ahead(0, 0), -2);
+            EDGE.without("ahead", x -> x.ahead(0, 0), -2);
             EDGE.is("no MEMORIES", Due.with("river 2 9").ahead(0, 0), -2);
         });
     }
@@ -123,17 +115,17 @@ public final class AskEdgeTest {
             EDGE.is("it goes to SEA", Due.with("river 2 1;person 1;memory 1 1 0 0;trap 1 1 0 0").caught(0, 0), -2);
             EDGE.is("it goes to SEA", Due.with("river 2 1;person 1;memory 1 1 0 0;trap 1 1 0 0").caught(0, 1), -2);
             for (int m : Edge.outside(0, 4)) {
-                refused("MEMORY " + m, x -> x.caught(m, 0), NONE);
+                EDGE.refused("MEMORY " + m, x -> x.caught(m, 0), NONE);
             }
             for (int what : Edge.outside(0, 1)) {
-                refused("what " + what, x -> x.caught(0, what), NONE);
+                EDGE.refused("what " + what, x -> x.caught(0, what), NONE);
             }
             for (int what = 0; what < 2; what++) {
                 int asked = what;
-                refused("in a TRAP", x -> x.caught(1, asked), NONE);
-                refused("at SEA", x -> x.caught(2, asked), NONE);
-                refused("HAD", x -> x.caught(3, asked), NONE);
-                without("caught", x -> x.caught(0, asked), NONE);
+                EDGE.refused("in a TRAP", x -> x.caught(1, asked), NONE);
+                EDGE.refused("at SEA", x -> x.caught(2, asked), NONE);
+                EDGE.refused("HAD", x -> x.caught(3, asked), NONE);
+                EDGE.without("caught", x -> x.caught(0, asked), NONE);
             }
         });
     }
@@ -159,9 +151,9 @@ public final class AskEdgeTest {
         });
         EDGE.of("AT SEA, as bits; NONE without these, or a RIVER", () -> {
             for (int n : Edge.outside(0, 100)) {
-                refused("n " + n, x -> x.atSea(n), NONE);
+                EDGE.refused("n " + n, x -> x.atSea(n), NONE);
             }
-            without("atSea", x -> x.atSea(0), NONE);
+            EDGE.without("atSea", x -> x.atSea(0), NONE);
         });
     }
 
@@ -186,9 +178,9 @@ public final class AskEdgeTest {
             EDGE.is("three of four", x.full(), -2);
         });
         EDGE.of("-2: behind none of these; NONE without a RIVER", () -> {
-            without("full", x -> x.full(), NONE);
+            EDGE.without("full", x -> x.full(), NONE);
             EDGE.is("no MEMORIES", Due.with("river 2 9;person 1;trap 0 1 0 0").full(), -2);
-            refused("full", x -> x.full(), -2);
+            EDGE.still("full", Edge::rich, x -> x.full(), -2);
         });
     }
 
@@ -210,23 +202,24 @@ public final class AskEdgeTest {
             for (int what = 0; what < 3; what++) {
                 int asked = what;
                 for (int t : Edge.outside(0, 2)) {
-                    refused("TRAP " + t, x -> x.bestSink(t, 1, asked), -2);
+                    EDGE.refused("TRAP " + t, x -> x.bestSink(t, 1, asked), -2);
                 }
                 for (int n : Edge.outside(1, 40)) {
-                    refused("n " + n, x -> x.bestSink(1, n, asked), -2);
+                    EDGE.refused("n " + n, x -> x.bestSink(1, n, asked), -2);
                 }
-                refused("not empty", x -> x.bestSink(0, 1, asked), -2);
-                without("bestSink", x -> x.bestSink(0, 1, asked), -2);
+                EDGE.refused("not empty", x -> x.bestSink(0, 1, asked), -2);
+                EDGE.without("bestSink", x -> x.bestSink(0, 1, asked), -2);
             }
             for (int what : Edge.outside(0, 2)) {
-                refused("what " + what, x -> x.bestSink(1, 1, what), -2);
+                EDGE.refused("what " + what, x -> x.bestSink(1, 1, what), -2);
             }
         });
     }
 
     private static void bestOfSeveral() {
         String stay = "go 1 if pool = from";
-        EDGE.of("so that most MEMORIES are in TRAPS then; of several as it is, then the least POOL, then the least BAIT", () -> {
+        EDGE.of("the POOL and the BAIT with which it had best be sunk now, or as it is, so that most MEMORIES are in TRAPS then; "
+            + "of several as it is, then the least POOL, then the least BAIT: how many; which POOL; which BAIT", () -> {
             best(Due.with("river 3 9;person 1;memory 0 1 5 0;memory 2 1 1 0;trap 2 1 1 0", stay), 0, 1, 1, NONE, NONE);
             best(Due.with("river 3 9;person 1;memory 0 1 5 0;memory 2 1 1 0;trap 1 1 1 0", stay), 0, 1, 1, 0, 5);
             best(Due.with("river 3 9;person 1;memory 0 1 6 0;memory 0 1 2 0;trap 1 1 1 0", stay), 0, 1, 1, 0, 2);
@@ -280,20 +273,20 @@ public final class AskEdgeTest {
             for (int what = 0; what < 2; what++) {
                 int asked = what;
                 for (int m : Edge.outside(0, 4)) {
-                    refused("MEMORY " + m, x -> x.lay(m, 1, 0, asked), NONE);
-                    refused("POOL " + m, x -> x.lay(0, 1, m, asked), NONE);
+                    EDGE.refused("MEMORY " + m, x -> x.lay(m, 1, 0, asked), NONE);
+                    EDGE.refused("POOL " + m, x -> x.lay(0, 1, m, asked), NONE);
                 }
                 for (int n : Edge.outside(1, 40)) {
-                    refused("n " + n, x -> x.lay(0, n, 0, asked), NONE);
+                    EDGE.refused("n " + n, x -> x.lay(0, n, 0, asked), NONE);
                 }
                 for (int m = 1; m <= 3; m++) {
                     int other = m;
-                    refused("one that is not FREE", x -> x.lay(other, 1, 0, asked), NONE);
+                    EDGE.refused("one that is not FREE", x -> x.lay(other, 1, 0, asked), NONE);
                 }
-                without("lay", x -> x.lay(0, 1, 0, asked), NONE);
+                EDGE.without("lay", x -> x.lay(0, 1, 0, asked), NONE);
             }
             for (int what : Edge.outside(0, 1)) {
-                refused("what " + what, x -> x.lay(0, 1, 0, what), NONE);
+                EDGE.refused("what " + what, x -> x.lay(0, 1, 0, what), NONE);
             }
         });
     }
@@ -318,13 +311,13 @@ public final class AskEdgeTest {
         EDGE.of("THROATS; -2: by none; NONE without these (empty)", () -> {
             EDGE.is("none there", Due.with("river 2 9;person 1;trap 1 9 0 0").throats(0, 40), -2);
             for (int t : Edge.outside(0, 2)) {
-                refused("TRAP " + t, x -> x.throats(t, 1), NONE);
+                EDGE.refused("TRAP " + t, x -> x.throats(t, 1), NONE);
             }
             for (int n : Edge.outside(1, 40)) {
-                refused("n " + n, x -> x.throats(1, n), NONE);
+                EDGE.refused("n " + n, x -> x.throats(1, n), NONE);
             }
-            refused("not empty", x -> x.throats(0, 1), NONE);
-            without("throats", x -> x.throats(0, 1), NONE);
+            EDGE.refused("not empty", x -> x.throats(0, 1), NONE);
+            EDGE.without("throats", x -> x.throats(0, 1), NONE);
         });
     }
 
@@ -359,7 +352,7 @@ public final class AskEdgeTest {
             EDGE.is("no MEMORIES", Due.with("river 2 9").astray(), 0);
             EDGE.is("at SEA", Due.with("river 2 1;person 1;memory 1 1 0 0").astray(), 0);
         });
-        EDGE.of("ASTRAY, as bits; NONE without a RIVER", () -> without("astray", x -> x.astray(), NONE));
+        EDGE.of("ASTRAY, as bits; NONE without a RIVER", () -> EDGE.without("astray", x -> x.astray(), NONE));
     }
 
     /** MEMORY i is of whose[i] and HAD by who[i]. */
@@ -409,15 +402,16 @@ public final class AskEdgeTest {
             EDGE.is("no PEOPLE", Due.with("river 2 9").rings(0), 0);
             EDGE.is("no PEOPLE", Due.with("river 2 9").rings(1), 0);
             for (int what : Edge.outside(0, 1)) {
-                refused("what " + what, x -> x.rings(what), NONE);
+                EDGE.refused("what " + what, x -> x.rings(what), NONE);
             }
-            without("rings", x -> x.rings(0), NONE);
-            without("rings", x -> x.rings(1), NONE);
+            EDGE.without("rings", x -> x.rings(0), NONE);
+            EDGE.without("rings", x -> x.rings(1), NONE);
         });
     }
 
     private static void right() {
-        EDGE.of("of these GIVES the one of the least MEMORY: which; to whom", () -> {
+        EDGE.of("RIGHT: the fewest GIVES by which every MEMORY that is HAD is HAD by the one WHOSE it is, if by each GIVE one MEMORY goes; "
+            + "of these GIVES the one of the least MEMORY: which; to whom", () -> {
             EelThroat x = six();
             EDGE.is("six", x.right(0), 6);
             EDGE.is("the least", x.right(1), 0);
@@ -441,11 +435,11 @@ public final class AskEdgeTest {
                 EDGE.is("none", x.right(2), -2);
             }
             for (int what : Edge.outside(0, 2)) {
-                refused("what " + what, x -> x.right(what), NONE);
+                EDGE.refused("what " + what, x -> x.right(what), NONE);
             }
             for (int what = 0; what < 3; what++) {
                 int asked = what;
-                without("right", x -> x.right(asked), NONE);
+                EDGE.without("right", x -> x.right(asked), NONE);
             }
         });
     }
@@ -458,7 +452,7 @@ public final class AskEdgeTest {
 
     private static void rests() {
         String two = "river 2 9;person 1;memory 0 4 3 0;trap 1 9 0 0;trap 1 9 0 0";
-        EDGE.of("RESTS of two empty TRAPS for n NIGHTS (1 to 20): each has a BAIT of 0, 1, .. or 7 from now on", () -> {
+        EDGE.of("RESTS of two empty TRAPS for n NIGHTS (1 to 20): each has a BAIT of 0, 1, .. or 7 from now on, all else as it is", () -> {
             rested(Due.with(two, "go pool if night = 19"), 19, 64, 0, 0);
             rested(Due.with(two, "go pool if night = 19"), 20, 8, 3, 0);
             rested(Due.with(two, "go pool if night = 20"), 20, 64, 0, 0);
@@ -470,7 +464,8 @@ public final class AskEdgeTest {
             EDGE.is("the other way round", Due.with(two).rests(1, 0, 1, 1), 0);
             EDGE.is("the other way round", Due.with(two).rests(1, 0, 1, 2), 3);
         });
-        EDGE.of("each has the SIZE of what is in it then (0 if it is empty): twos of which neither would have more by another BAIT", () -> {
+        EDGE.of("each has the SIZE of what is in it then (0 if it is empty): twos of which neither would have more by another BAIT: how many; "
+            + "the first (by the first one, then the second one)", () -> {
             // SIZES 9 and 8 of two SMELLS: 5 and 2 for the first and the second one, and no others.
             rested(Due.with("river 2 9;person 1;memory 0 9 5 0;memory 0 8 2 0;trap 1 9 0 0;trap 1 9 0 0"), 1, 1, 5, 2);
             // Alike in SIZE: the first one by both, the second one by the other one of both.
@@ -482,19 +477,19 @@ public final class AskEdgeTest {
             for (int what = 0; what < 3; what++) {
                 int asked = what;
                 for (int n : Edge.outside(1, 20)) {
-                    refused("n " + n, x -> x.rests(1, 2, n, asked), NONE);
+                    EDGE.refused("n " + n, x -> x.rests(1, 2, n, asked), NONE);
                 }
                 for (int t : Edge.outside(0, 2)) {
-                    refused("TRAP " + t + " first", x -> x.rests(t, 1, 1, asked), NONE);
-                    refused("TRAP " + t + " second", x -> x.rests(1, t, 1, asked), NONE);
+                    EDGE.refused("TRAP " + t + " first", x -> x.rests(t, 1, 1, asked), NONE);
+                    EDGE.refused("TRAP " + t + " second", x -> x.rests(1, t, 1, asked), NONE);
                 }
-                refused("alike", x -> x.rests(1, 1, 1, asked), NONE);
-                refused("the first one not empty", x -> x.rests(0, 1, 1, asked), NONE);
-                refused("the second one not empty", x -> x.rests(1, 0, 1, asked), NONE);
-                without("rests", x -> x.rests(0, 1, 1, asked), NONE);
+                EDGE.refused("alike", x -> x.rests(1, 1, 1, asked), NONE);
+                EDGE.refused("the first one not empty", x -> x.rests(0, 1, 1, asked), NONE);
+                EDGE.refused("the second one not empty", x -> x.rests(1, 0, 1, asked), NONE);
+                EDGE.without("rests", x -> x.rests(0, 1, 1, asked), NONE);
             }
             for (int what : Edge.outside(0, 2)) {
-                refused("what " + what, x -> x.rests(1, 2, 1, what), NONE);
+                EDGE.refused("what " + what, x -> x.rests(1, 2, 1, what), NONE);
             }
         });
     }
@@ -553,10 +548,10 @@ public final class AskEdgeTest {
             round(() -> Due.with("river 2 9"), 0, 0, 1);
             round(() -> Due.with("river 2 9" + ";moon 1".repeat(12)), 3, 3, 12);
             for (int what : Edge.outside(0, 1)) {
-                refused("what " + what, x -> x.cycle(what), NONE);
+                EDGE.refused("what " + what, x -> x.cycle(what), NONE);
             }
-            without("cycle", x -> x.cycle(0), NONE);
-            without("cycle", x -> x.cycle(1), NONE);
+            EDGE.without("cycle", x -> x.cycle(0), NONE);
+            EDGE.without("cycle", x -> x.cycle(1), NONE);
         });
     }
 
@@ -600,12 +595,12 @@ public final class AskEdgeTest {
         });
         EDGE.of("PENCE of a PERSON; NONE without these", () -> {
             for (int much : Edge.outside(0, 9999)) {
-                refused(much + " pence", x -> x.pence(much, 0), NONE);
+                EDGE.refused(much + " pence", x -> x.pence(much, 0), NONE);
             }
             for (int who : Edge.outside(0, 2)) {
-                refused("PERSON " + who, x -> x.pence(5, who), NONE);
+                EDGE.refused("PERSON " + who, x -> x.pence(5, who), NONE);
             }
-            without("pence", x -> x.pence(0, 0), NONE);
+            EDGE.without("pence", x -> x.pence(0, 0), NONE);
             EDGE.is("no PEOPLE", Due.with("river 2 9").pence(0, 0), NONE);
         });
     }

@@ -45,6 +45,15 @@ final class Edge {
         same(call, x, made.get());
     }
 
+    /** Where something of every kind is there. */
+    void refused(String call, ToIntFunction<EelThroat> asked, int answer) {
+        still(call, Edge::rich, asked, answer);
+    }
+
+    void without(String call, ToIntFunction<EelThroat> asked, int answer) {
+        still(call + " without a RIVER", EelThroat::new, asked, answer);
+    }
+
     void same(String call, EelThroat x, EelThroat y) {
         String is = Whole.all(x);
         String was = Whole.all(y);

@@ -17,6 +17,7 @@ public final class FaceEdgeTest {
     }
 
     private static void newObject() {
+        EDGE.of("`NONE = -1`", () -> EDGE.is("NONE", EelThroat.NONE, -1));
         EDGE.of("No RIVER, no RULES, none IN FORCE", () -> {
             EelThroat x = new EelThroat();
             int[] want = {0, 0, 0, 0, 0, 0, 0, NONE, 0, 0, 0, 0, 0, 0, 0};
@@ -50,11 +51,11 @@ public final class FaceEdgeTest {
                 for (int m : Edge.outside(0, 4)) {
                     for (int what = 0; what < 4; what++) {
                         int asked = what;
-                        EDGE.still("MEMORY " + m, Edge::rich, y -> y.memory(m, asked), -2);
+                        EDGE.refused("MEMORY " + m, y -> y.memory(m, asked), -2);
                     }
                 }
                 for (int what : Edge.outside(0, 3)) {
-                    EDGE.still("what " + what, Edge::rich, y -> y.memory(0, what), -2);
+                    EDGE.refused("what " + what, y -> y.memory(0, what), -2);
                 }
                 x = Due.with("river 12 9;person 9" + ";memory 11 9 7 0".repeat(6));
                 EDGE.is("the last", x.memory(5, 3), 11);
@@ -76,11 +77,11 @@ public final class FaceEdgeTest {
             for (int t : Edge.outside(0, 2)) {
                 for (int what = 0; what < 5; what++) {
                     int asked = what;
-                    EDGE.still("TRAP " + t, Edge::rich, y -> y.trap(t, asked), -2);
+                    EDGE.refused("TRAP " + t, y -> y.trap(t, asked), -2);
                 }
             }
             for (int what : Edge.outside(0, 4)) {
-                EDGE.still("what " + what, Edge::rich, y -> y.trap(0, what), -2);
+                EDGE.refused("what " + what, y -> y.trap(0, what), -2);
             }
             x = Due.with("river 12 9;person 9;person 9;person 9;person 9" + ";trap 11 9 7 3".repeat(4));
             EDGE.is("the last", x.trap(3, 3), 3);
@@ -96,7 +97,7 @@ public final class FaceEdgeTest {
             EDGE.is("one who HAS none", x.person(1), 0);
             EDGE.is("the last", x.person(2), 0);
             for (int who : Edge.outside(0, 2)) {
-                EDGE.still("PERSON " + who, Edge::rich, y -> y.person(who), NONE);
+                EDGE.refused("PERSON " + who, y -> y.person(who), NONE);
             }
             EDGE.is("no PEOPLE", Due.with("river 2 9").person(0), NONE);
             x = Due.with("river 2 9;person 9;person 9;person 9;person 9" + ";memory 0 1 0 0".repeat(6) + ";trap 1 1 0 3");
@@ -118,7 +119,7 @@ public final class FaceEdgeTest {
             EDGE.is("the second", x.moon(1), 7);
             EDGE.is("the last", x.moon(2), 1);
             for (int n : Edge.outside(0, 2)) {
-                EDGE.still("NIGHT " + n, Edge::rich, y -> y.moon(n), NONE);
+                EDGE.refused("NIGHT " + n, y -> y.moon(n), NONE);
             }
             x = Due.with("river 2 9" + ";moon 0".repeat(11) + ";moon 9");
             EDGE.is("the twelfth", x.moon(11), 9);
@@ -138,7 +139,7 @@ public final class FaceEdgeTest {
                     EDGE.is("count(" + i + ")", x.count(i), want[i]);
                 }
                 for (int what : Edge.outside(0, 14)) {
-                    EDGE.still("count(" + what + ")", Edge::rich, y -> y.count(what), NONE);
+                    EDGE.refused("count(" + what + ")", y -> y.count(what), NONE);
                     EDGE.still("count(" + what + ")", EelThroat::new, y -> y.count(what), NONE);
                 }
                 x = Due.with("river 12 9" + ";moon 9".repeat(12) + ";person 9".repeat(4) + ";memory 11 9 7 3".repeat(6) + ";trap 11 8 7 3".repeat(4));
@@ -156,7 +157,7 @@ public final class FaceEdgeTest {
     private static void image() {
         EDGE.of("An IMAGE is made: NIGHT; NONE without it", () -> {
             for (int k : Edge.outside(0, 3)) {
-                EDGE.still("image(" + k + ")", Edge::rich, x -> x.image(k), NONE);
+                EDGE.refused("image(" + k + ")", x -> x.image(k), NONE);
                 EDGE.still("image(" + k + ")", EelThroat::new, x -> x.image(k), NONE);
             }
             EelThroat x = new EelThroat();
@@ -184,14 +185,14 @@ public final class FaceEdgeTest {
     private static void back() {
         EDGE.of("NONE, and nothing happens, if it was never made, or without it", () -> {
             for (int k : Edge.outside(0, 3)) {
-                EDGE.still("back(" + k + ")", Edge::rich, x -> x.back(k), NONE);
+                EDGE.refused("back(" + k + ")", x -> x.back(k), NONE);
             }
             for (int k = 0; k < 4; k++) {
                 int its = k;
                 EDGE.still("back(" + k + ") of a new one", EelThroat::new, x -> x.back(its), NONE);
             }
-            EDGE.still("back(1), never made", Edge::rich, x -> x.back(1), NONE);
-            EDGE.still("back(3), never made", Edge::rich, x -> x.back(3), NONE);
+            EDGE.refused("back(1), never made", x -> x.back(1), NONE);
+            EDGE.refused("back(3), never made", x -> x.back(3), NONE);
         });
         EDGE.of("gone back to, it is as it was (these stay; nothing can be UNDONE then)", () -> {
             EelThroat x = Edge.rich();

@@ -1,5 +1,4 @@
 import java.util.function.IntPredicate;
-import java.util.function.ToIntFunction;
 
 /** The edges that the document names for NOTES, what they tell, and DRAWS, promises 27 and 31 to 35. */
 public final class GuessEdgeTest {
@@ -18,14 +17,6 @@ public final class GuessEdgeTest {
         moons();
         draws();
         EDGE.close();
-    }
-
-    private static void refused(String call, ToIntFunction<EelThroat> asked, int answer) {
-        EDGE.still(call, Edge::rich, asked, answer);
-    }
-
-    private static void without(String call, ToIntFunction<EelThroat> asked, int answer) {
-        EDGE.still(call + " without a RIVER", EelThroat::new, asked, answer);
     }
 
     private static int noted(EelThroat x, int n, int memory, int pool) {
@@ -65,9 +56,9 @@ public final class GuessEdgeTest {
             });
         EDGE.of("OF, as bits; NONE without that MEMORY", () -> {
             for (int m : Edge.outside(0, 4)) {
-                refused("MEMORY " + m, x -> x.of(m), NONE);
+                EDGE.refused("MEMORY " + m, x -> x.of(m), NONE);
             }
-            without("of", x -> x.of(0), NONE);
+            EDGE.without("of", x -> x.of(0), NONE);
             EDGE.is("no MEMORIES", Due.with(FOUR).of(0), NONE);
         });
     }
@@ -111,24 +102,24 @@ public final class GuessEdgeTest {
             EDGE.is("all RULES are so", x.ruled(0), 3);
             EDGE.is("none of none", x.note(NONE, 99, 99), 0);
             EDGE.is("one", x.note(0, 0, 0), 1);
-            without("note", y -> y.note(NONE, 0, 0), 0);
+            EDGE.without("note", y -> y.note(NONE, 0, 0), 0);
             x = Edge.rich();
             x.note(NONE, 0, 0);
             EDGE.is("no ACT", x.count(12), 4);
         });
         EDGE.of("-2, and nothing happens, without these (pool NONE: not FREE), or if there are 10", () -> {
             for (int n : Edge.outside(NONE, 60)) {
-                refused("n " + n, x -> x.note(n, 0, 0), -2);
+                EDGE.refused("n " + n, x -> x.note(n, 0, 0), -2);
             }
             for (int m : Edge.outside(0, 4)) {
-                refused("MEMORY " + m, x -> x.note(0, m, 0), -2);
+                EDGE.refused("MEMORY " + m, x -> x.note(0, m, 0), -2);
             }
             for (int pool : Edge.outside(NONE, 4)) {
-                refused("POOL " + pool, x -> x.note(0, 0, pool), -2);
+                EDGE.refused("POOL " + pool, x -> x.note(0, 0, pool), -2);
             }
             EDGE.still("an eleventh", GuessEdgeTest::ten, x -> x.note(0, 0, 0), -2);
-            without("note", x -> x.note(0, 0, 0), -2);
-            without("note", x -> x.note(0, 0, NONE), -2);
+            EDGE.without("note", x -> x.note(0, 0, 0), -2);
+            EDGE.without("note", x -> x.note(0, 0, NONE), -2);
         });
     }
 
@@ -196,10 +187,10 @@ public final class GuessEdgeTest {
     private static void ruledRefused() {
         EDGE.of("(NONE: none; -2: there is none such). -3 for others, or without a RIVER", () -> {
             for (int what : Edge.outside(0, 1)) {
-                refused("what " + what, x -> x.ruled(what), -3);
+                EDGE.refused("what " + what, x -> x.ruled(what), -3);
             }
-            without("ruled", x -> x.ruled(0), -3);
-            without("ruled", x -> x.ruled(1), -3);
+            EDGE.without("ruled", x -> x.ruled(0), -3);
+            EDGE.without("ruled", x -> x.ruled(1), -3);
             so(Due.with("river 2 9"), 1, NONE);
         });
     }
@@ -254,14 +245,14 @@ public final class GuessEdgeTest {
             looked(x, 60, -2, -2);
             looked(six("river 2 9;person 1"), 60, -2, -2);
             for (int n : Edge.outside(0, 60)) {
-                refused("n " + n, y -> y.look(n, 0), NONE);
-                refused("n " + n, y -> y.look(n, 1), NONE);
+                EDGE.refused("n " + n, y -> y.look(n, 0), NONE);
+                EDGE.refused("n " + n, y -> y.look(n, 1), NONE);
             }
             for (int what : Edge.outside(0, 1)) {
-                refused("what " + what, y -> y.look(0, what), NONE);
+                EDGE.refused("what " + what, y -> y.look(0, what), NONE);
             }
-            without("look", y -> y.look(0, 0), NONE);
-            without("look", y -> y.look(0, 1), NONE);
+            EDGE.without("look", y -> y.look(0, 0), NONE);
+            EDGE.without("look", y -> y.look(0, 1), NONE);
         });
     }
 
@@ -275,10 +266,10 @@ public final class GuessEdgeTest {
             EDGE.is("it is so", x.count(13), 0);
         });
         EDGE.of("x becomes a number: what it was; NONE, and nothing happens, below 0", () -> {
-            refused("-1", x -> x.seed(-1), NONE);
-            refused("the least there is", x -> x.seed(Integer.MIN_VALUE), NONE);
-            refused("as it is", x -> x.seed(12345), 12345);
-            without("seed", x -> x.seed(-1), NONE);
+            EDGE.refused("-1", x -> x.seed(-1), NONE);
+            EDGE.refused("the least there is", x -> x.seed(Integer.MIN_VALUE), NONE);
+            EDGE.still("as it is", Edge::rich, x -> x.seed(12345), 12345);
+            EDGE.without("seed", x -> x.seed(-1), NONE);
             EDGE.is("no ACT", Edge.rich().seed(0), 12345);
         });
     }
@@ -322,18 +313,18 @@ public final class GuessEdgeTest {
             for (int what = 0; what < 2; what++) {
                 int asked = what;
                 for (int m : Edge.outside(1, 10)) {
-                    refused("m " + m, x -> x.moons(m, 1, 0, asked), NONE);
+                    EDGE.refused("m " + m, x -> x.moons(m, 1, 0, asked), NONE);
                 }
                 for (int n : Edge.outside(1, 60)) {
-                    refused("n " + n, x -> x.moons(1, n, 0, asked), NONE);
+                    EDGE.refused("n " + n, x -> x.moons(1, n, 0, asked), NONE);
                 }
                 for (int p : Edge.outside(0, 100)) {
-                    refused("p " + p, x -> x.moons(1, 1, p, asked), NONE);
+                    EDGE.refused("p " + p, x -> x.moons(1, 1, p, asked), NONE);
                 }
-                without("moons", x -> x.moons(1, 1, 0, asked), NONE);
+                EDGE.without("moons", x -> x.moons(1, 1, 0, asked), NONE);
             }
             for (int what : Edge.outside(0, 1)) {
-                refused("what " + what, x -> x.moons(1, 1, 0, what), NONE);
+                EDGE.refused("what " + what, x -> x.moons(1, 1, 0, what), NONE);
             }
         });
     }

@@ -235,7 +235,7 @@ public final class NightEdgeTest {
 
     private static void night() {
         EDGE.of("NONE, and nothing happens, without a RIVER, or in NIGHT 999", () -> {
-            EDGE.still("without a RIVER", EelThroat::new, x -> x.night(), NONE);
+            EDGE.without("night", x -> x.night(), NONE);
             EDGE.still("in NIGHT 999", () -> atNight(999), x -> x.night(), NONE);
         });
         EDGE.of("A NIGHT: MEMORIES that go into TRAPS in it, as bits", () -> {
@@ -272,11 +272,11 @@ public final class NightEdgeTest {
             });
         EDGE.of("LIFT: which MEMORY; NONE, and nothing happens, without these", () -> {
             for (int trap : Edge.outside(0, 2)) {
-                EDGE.still("lift(" + trap + ")", Edge::rich, x -> x.lift(trap), NONE);
+                EDGE.refused("lift(" + trap + ")", x -> x.lift(trap), NONE);
             }
-            EDGE.still("an empty one", Edge::rich, x -> x.lift(1), NONE);
-            EDGE.still("an empty one, the last", Edge::rich, x -> x.lift(2), NONE);
-            EDGE.still("without a RIVER", EelThroat::new, x -> x.lift(0), NONE);
+            EDGE.refused("an empty one", x -> x.lift(1), NONE);
+            EDGE.refused("an empty one, the last", x -> x.lift(2), NONE);
+            EDGE.without("lift", x -> x.lift(0), NONE);
             EelThroat x = Edge.rich();
             EDGE.is("one with MEMORY 1", x.lift(0), 1);
             EDGE.is("again", x.lift(0), NONE);
@@ -301,18 +301,18 @@ public final class NightEdgeTest {
             }
         });
         EDGE.of("8 times the POOL it was in, and its BAIT; NONE, and nothing happens, without these (otherwise than it is)", () -> {
-            EDGE.still("as it is", Edge::rich, x -> x.sink(1, 2, 4), NONE);
-            EDGE.still("as it is", Edge::rich, x -> x.sink(2, 3, 6), NONE);
-            EDGE.still("not empty", Edge::rich, x -> x.sink(0, 0, 0), NONE);
-            EDGE.still("without a RIVER", EelThroat::new, x -> x.sink(0, 0, 0), NONE);
+            EDGE.refused("as it is", x -> x.sink(1, 2, 4), NONE);
+            EDGE.refused("as it is", x -> x.sink(2, 3, 6), NONE);
+            EDGE.refused("not empty", x -> x.sink(0, 0, 0), NONE);
+            EDGE.without("sink", x -> x.sink(0, 0, 0), NONE);
             for (int n : Edge.outside(0, 2)) {
-                EDGE.still("TRAP " + n, Edge::rich, x -> x.sink(n, 0, 0), NONE);
+                EDGE.refused("TRAP " + n, x -> x.sink(n, 0, 0), NONE);
             }
             for (int n : Edge.outside(0, 4)) {
-                EDGE.still("POOL " + n, Edge::rich, x -> x.sink(1, n, 0), NONE);
+                EDGE.refused("POOL " + n, x -> x.sink(1, n, 0), NONE);
             }
             for (int n : Edge.outside(0, 7)) {
-                EDGE.still("BAIT " + n, Edge::rich, x -> x.sink(1, 0, n), NONE);
+                EDGE.refused("BAIT " + n, x -> x.sink(1, 0, n), NONE);
             }
             EelThroat x = Due.with("river 12 9;person 1" + ";trap 11 1 7 0".repeat(4));
             EDGE.is("the most", x.sink(3, 0, 0), 95);
@@ -321,15 +321,7 @@ public final class NightEdgeTest {
     }
 
     private static void free() {
-        EDGE.of("FREE: who HAD it; NONE, and nothing happens, without these", () -> {
-            EDGE.still("one that is FREE", Edge::rich, x -> x.free(0, 1), NONE);
-            EDGE.still("one in a TRAP", Edge::rich, x -> x.free(1, 1), NONE);
-            EDGE.still("one at SEA", Edge::rich, x -> x.free(2, 1), NONE);
-            EDGE.still("without a RIVER", EelThroat::new, x -> x.free(0, 0), NONE);
-            for (int n : Edge.outside(0, 4)) {
-                EDGE.still("MEMORY " + n, Edge::rich, x -> x.free(n, 0), NONE);
-                EDGE.still("POOL " + n, Edge::rich, x -> x.free(3, n), NONE);
-            }
+        EDGE.of("FREE (a MEMORY that is HAD is FREE in a POOL)", () -> {
             for (int pool = 0; pool < 5; pool++) {
                 EelThroat x = Edge.rich();
                 EDGE.is("free(3, " + pool + ")", x.free(3, pool), 0);
@@ -342,21 +334,20 @@ public final class NightEdgeTest {
             x.lift(0);
             EDGE.is("the last of six, of the last of four", x.free(5, 0), 3);
         });
+        EDGE.of("FREE: who HAD it; NONE, and nothing happens, without these", () -> {
+            EDGE.refused("one that is FREE", x -> x.free(0, 1), NONE);
+            EDGE.refused("one in a TRAP", x -> x.free(1, 1), NONE);
+            EDGE.refused("one at SEA", x -> x.free(2, 1), NONE);
+            EDGE.without("free", x -> x.free(0, 0), NONE);
+            for (int n : Edge.outside(0, 4)) {
+                EDGE.refused("MEMORY " + n, x -> x.free(n, 0), NONE);
+                EDGE.refused("POOL " + n, x -> x.free(3, n), NONE);
+            }
+        });
     }
 
     private static void give() {
-        EDGE.of("GIVE: who HAD it; NONE, and nothing happens, without these (another one)", () -> {
-            EDGE.still("one that is FREE", Edge::rich, x -> x.give(0, 1), NONE);
-            EDGE.still("one in a TRAP", Edge::rich, x -> x.give(1, 2), NONE);
-            EDGE.still("one at SEA", Edge::rich, x -> x.give(2, 1), NONE);
-            EDGE.still("to the one who HAS it", Edge::rich, x -> x.give(3, 0), NONE);
-            EDGE.still("without a RIVER", EelThroat::new, x -> x.give(0, 0), NONE);
-            for (int n : Edge.outside(0, 4)) {
-                EDGE.still("MEMORY " + n, Edge::rich, x -> x.give(n, 1), NONE);
-            }
-            for (int n : Edge.outside(0, 2)) {
-                EDGE.still("PERSON " + n, Edge::rich, x -> x.give(3, n), NONE);
-            }
+        EDGE.of("GIVE (a MEMORY that is HAD another PERSON HAS)", () -> {
             for (int who = 1; who < 3; who++) {
                 EelThroat x = Edge.rich();
                 EDGE.is("give(3, " + who + ")", x.give(3, who), 0);
@@ -366,6 +357,19 @@ public final class NightEdgeTest {
                 EDGE.is("to the one who HAS it", x.give(3, who), NONE);
                 EDGE.is("no ACT", x.count(12), 5);
                 EDGE.is("back again", x.give(3, 0), who);
+            }
+        });
+        EDGE.of("GIVE: who HAD it; NONE, and nothing happens, without these (another one)", () -> {
+            EDGE.refused("one that is FREE", x -> x.give(0, 1), NONE);
+            EDGE.refused("one in a TRAP", x -> x.give(1, 2), NONE);
+            EDGE.refused("one at SEA", x -> x.give(2, 1), NONE);
+            EDGE.refused("to the one who HAS it", x -> x.give(3, 0), NONE);
+            EDGE.without("give", x -> x.give(0, 0), NONE);
+            for (int n : Edge.outside(0, 4)) {
+                EDGE.refused("MEMORY " + n, x -> x.give(n, 1), NONE);
+            }
+            for (int n : Edge.outside(0, 2)) {
+                EDGE.refused("PERSON " + n, x -> x.give(3, n), NONE);
             }
         });
     }
@@ -429,7 +433,7 @@ public final class NightEdgeTest {
 
     private static void undo() {
         EDGE.of("The last ACT is UNDONE: how many more can be; NONE, and nothing happens: none can", () -> {
-            EDGE.still("without a RIVER", EelThroat::new, x -> x.undo(), NONE);
+            EDGE.without("undo", x -> x.undo(), NONE);
             EDGE.still("none yet", () -> Due.with("river 2 9;person 1;memory 0 1 0 0"), x -> x.undo(), NONE);
             EDGE.still("none more", () -> {
                 EelThroat x = Edge.rich();

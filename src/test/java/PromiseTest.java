@@ -301,7 +301,7 @@ public final class PromiseTest {
         goes("go 1 if not pool = 0 and pool > 0", 1);
         goes("go 1 if not [pool = 0 or pool = 1]", 2);
         goes("go 1 if not not pool = 2", 2);
-        // 99999 four times by itself goes round: its 64 bits are those of a number below 0.
+        // 99999 four times by itself goes round.
         goes("go 99999 * 99999 * 99999 * 99999", 99999L * 99999L * 99999L * 99999L > 0 ? 0 : 1);
         goes("go 0 - 99999 * 99999 * 99999 * 99999", 99999L * 99999L * 99999L * 99999L < 0 ? 0 : 1);
     }

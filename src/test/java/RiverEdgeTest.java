@@ -88,7 +88,7 @@ public final class RiverEdgeTest {
         });
         EDGE.of("NONE, and nothing happens, if it has not so many, or n is below 0", () -> {
             for (int n : Edge.outside(0, 33)) {
-                EDGE.still("end(" + n + ")", Edge::rich, x -> x.end(n), NONE);
+                EDGE.refused("end(" + n + ")", x -> x.end(n), NONE);
             }
             EDGE.still("end(33), as many as it has", Edge::rich, x -> x.end(33), 33);
             EDGE.is("end(32)", Edge.rich().end(32), 32);
@@ -134,11 +134,12 @@ public final class RiverEdgeTest {
             bad("river 2 1;", 10, 0);
             bad("river 2 1;;moon 1", 10, 0);
         });
-        EDGE.of("POOLS 2 to 12", () -> {
+        EDGE.of("POOLS 2 to 12, 0 the highest", () -> {
             taken("river ", 2, 12, " 1");
             bad("river 0 1", 6, 1);
             EDGE.is("2", Due.with("river 2 1").count(0), 2);
             EDGE.is("12", Due.with("river 12 1").count(0), 12);
+            EDGE.is("down from 0", Due.with("river 12 1;person 1;memory 0 1 0 0").ahead(0, 11), 11);
         });
         EDGE.of("BIG 1 to 9", () -> {
             taken("river 2 ", 1, 9, "");

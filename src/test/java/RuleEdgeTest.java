@@ -490,7 +490,7 @@ public final class RuleEdgeTest {
     private static void promiseForce() {
         EDGE.of("A RULE is IN FORCE (NONE: none): which was; -2, and nothing happens, if there is none such", () -> {
             for (int rule : Edge.outside(NONE, 1)) {
-                EDGE.still("force(" + rule + ")", Edge::rich, x -> x.force(rule), -2);
+                EDGE.refused("force(" + rule + ")", x -> x.force(rule), -2);
             }
             for (int rule : Edge.outside(NONE, 5)) {
                 EDGE.still("force(" + rule + ") of six", () -> six(33), x -> x.force(rule), -2);

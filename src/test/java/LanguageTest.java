@@ -37,6 +37,7 @@ public final class LanguageTest {
                 DUE.is(m + " answers an int", m.getReturnType() == int.class ? 1 : 0, 1);
             } else {
                 DUE.is(m + " is private", Modifier.isPrivate(m.getModifiers()) ? 1 : 0, 1);
+                DUE.is(m + " has a name of its own", isTaken(m) ? 1 : 0, 0);
             }
         }
         DUE.is("the face " + seen, seen.equals(new TreeSet<>(FACE)) ? 1 : 0, 1);
@@ -48,6 +49,10 @@ public final class LanguageTest {
         DUE.is("constructors", made.length, 1);
         DUE.is("constructors", made[0].getParameterCount(), 0);
         DUE.is("final", Modifier.isFinal(EelThroat.class.getModifiers()) ? 1 : 0, 1);
+    }
+
+    private static boolean isTaken(Method m) {
+        return FACE.stream().anyMatch(f -> f.startsWith(m.getName() + " "));
     }
 
     private static void classes() {
@@ -62,8 +67,7 @@ public final class LanguageTest {
                 DUE.is(f + " is final, if it is static", good ? 1 : 0, 1);
             }
             for (Method m : c.getDeclaredMethods()) {
-                boolean taken = FACE.stream().anyMatch(f -> f.startsWith(m.getName() + " "));
-                DUE.is(m + " has a name of its own", taken ? 1 : 0, 0);
+                DUE.is(m + " has a name of its own", isTaken(m) ? 1 : 0, 0);
                 DUE.is(m + " takes seven at most", Math.max(7, m.getParameterCount()), 7);
             }
         }
